@@ -352,6 +352,12 @@ public final class PromisesTest {
         judged("2102", 2, 5);
         x.high(10);
         judged("2100", -6, -6);
+        // Nothing is left over from a panel as it was.
+        panels(PLAIN, 3, PLAIN, 3, PLAIN, 6);
+        x.high(6);
+        judged("222", -6, -6);
+        x.change(2, 1, 3);
+        judged("210", -6, -6);
         // Higher reasons come last: a height too great tells nothing where a lesser reason fits.
         panels(PLAIN, 6, ALONE, 6, REVEAL, 6);
         judged("202", 1, 3);
