@@ -106,6 +106,14 @@ final class Desk {
         return this;
     }
 
+    /** So many panels alike, of weight 1. */
+    Desk alike(int many, int tall, int kind) {
+        for (int i = 0; i < many; i++) {
+            put(1, tall, kind);
+        }
+        return this;
+    }
+
     /** Panels of weight 1 and tall 1. */
     Desk kinds(int... kinds) {
         for (int kind : kinds) {
@@ -186,9 +194,7 @@ final class Desk {
         }
         withHigh(20);
         StringBuilder seen = new StringBuilder();
-        for (int i = 0; i < signs; i++) {
-            put(1, 1, 0);
-        }
+        alike(signs, 1, 0);
         seen.append(signs).append(' ').append(judge(0)).append(' ').append(judge(1));
         for (int p = 0; p < signs; p++) {
             seen.append(' ').append(at(p, 0)).append(',').append(at(p, 1)).append(',').append(at(p, 2));

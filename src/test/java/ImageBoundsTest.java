@@ -150,6 +150,43 @@ public final class ImageBoundsTest extends Sentences {
         }
     }
 
+    /** The first and the ninth panel, the first and the fourth balloon: all of them come back. */
+    @Says({"PANELS, up to 9", "up to 4 BALLOONS", "is as it was when it was kept"})
+    void promise20FirstAndNinthPanel() {
+        full(x);
+        x.keep(0);
+        change(0, REVEAL);
+        change(8, ALONE);
+        x.keep(1);
+        for (int again = 0; again < 2; again++) {
+            due("restore(0)", x.restore(0), 1);
+            same("the first as kept first", one(0), "9 1 0 4: 3210");
+            same("the ninth as kept first", one(8), "1 3 0 4: 3210");
+            due("restore(1)", x.restore(1), 1);
+            same("the first as kept later", one(0), "5 5 3 3: 012");
+            same("the ninth as kept later", one(8), "5 5 1 3: 012");
+            x.balloons(0, "1111").balloons(8, "0000");
+        }
+    }
+
+    private void change(int panel, int kind) {
+        x.change(panel, 0, 5);
+        x.change(panel, 1, 5);
+        x.change(panel, 2, kind);
+        x.balloons(panel, "012");
+    }
+
+    private String one(int panel) {
+        StringBuilder seen = new StringBuilder();
+        for (int what = 0; what <= 3; what++) {
+            seen.append(x.of(panel, what)).append(what < 3 ? " " : ": ");
+        }
+        for (int i = 0; x.speaker(panel, i) != NONE && i < 9; i++) {
+            seen.append(x.speaker(panel, i));
+        }
+        return seen.toString();
+    }
+
     @Says("All but THE PAD and IMAGES")
     void promise20OtherImageIsAsItWas() {
         one(x);

@@ -62,12 +62,6 @@ public final class LayoutBoundsTest extends Sentences {
         }
     }
 
-    private static int[] nine(int v) {
-        int[] all = new int[9];
-        java.util.Arrays.fill(all, v);
-        return all;
-    }
-
     // ---- promise 8
 
     @Says("OUTSIDE: it is not 33 to 126")
@@ -143,7 +137,7 @@ public final class LayoutBoundsTest extends Sentences {
             due("judge(1) of " + sign, x.judge(1), FAULT);
         }
         for (int place = 0; place < 9; place++) {
-            x = new Desk().talls(nine(1));
+            x = new Desk().alike(9, 1, PLAIN);
             for (char sign : new char[] {'/', '3'}) {
                 x.pad("222222222".substring(0, place) + sign + "222222222".substring(place + 1));
                 due("judge(0), " + sign + " at " + place, x.judge(0), FAULT);
@@ -156,10 +150,7 @@ public final class LayoutBoundsTest extends Sentences {
     @Says({"as many as there are PANELS", "or not as many"})
     void promise10AsManyFiguresAsPanels() {
         for (int panels = 0; panels <= 9; panels++) {
-            x = new Desk();
-            for (int i = 0; i < panels; i++) {
-                x.put(1, 1, 0);
-            }
+            x = new Desk().alike(panels, 1, 0);
             for (int signs = 0; signs <= 9; signs++) {
                 x.pad("222222222".substring(0, signs));
                 due("judge(0), " + panels + " panels, " + signs + " signs", x.judge(0), signs == panels ? NONE : FAULT);
@@ -196,7 +187,7 @@ public final class LayoutBoundsTest extends Sentences {
 
     @Says("2 it is 0, and the TIER has 4 PANELS already")
     void promise10FourInATier() {
-        x.talls(nine(1));
+        x.alike(9, 1, PLAIN);
         judged("200012000", NONE, NONE);
         judged("200011000", NONE, NONE);
         judged("200012001", NONE, NONE);
@@ -385,10 +376,7 @@ public final class LayoutBoundsTest extends Sentences {
             due("told(0) of 2" + sign, x.told(0), FAULT);
         }
         for (int panels = 0; panels <= 9; panels++) {
-            x = new Desk();
-            for (int i = 0; i < panels; i++) {
-                x.put(1, 1, 0);
-            }
+            x = new Desk().alike(panels, 1, 0);
             for (int signs = 0; signs <= 9; signs++) {
                 x.pad("222222222".substring(0, signs));
                 due("told(0), " + panels + " panels, " + signs + " signs", x.told(0), signs == panels ? panels : FAULT);
@@ -404,7 +392,7 @@ public final class LayoutBoundsTest extends Sentences {
         refused(NO, "told, reason 4", d -> d.kinds(PLAIN, REVEAL).pad("21"), from(0, 3), (d, v) -> d.told(v));
         refused(NO, "told, reason 5", d -> d.talls(6, 5).pad("21"), from(0, 3), (d, v) -> d.told(v));
         // The last figure of nine.
-        refused(NO, "told, the ninth", d -> d.talls(nine(1)).pad("200020000"), from(0, 3), (d, v) -> d.told(v));
+        refused(NO, "told, the ninth", d -> d.alike(9, 1, PLAIN).pad("200020000"), from(0, 3), (d, v) -> d.told(v));
     }
 
     @Says("How many PAGES a LAYOUT has: all, BLANK ones, too (0 without PANELS)")
@@ -419,10 +407,7 @@ public final class LayoutBoundsTest extends Sentences {
     void promise11BlankPageAheadOfAnEvenOne() {
         for (int kind : new int[] {SPREAD, REVEAL}) {
             for (int ahead = 0; ahead <= 8; ahead++) {
-                x = new Desk();
-                for (int i = 0; i < ahead; i++) {
-                    x.put(1, 6, PLAIN);
-                }
+                x = new Desk().alike(ahead, 6, PLAIN);
                 x.put(1, 6, kind).withHigh(6);
                 int blanks = ahead % 2 == 0 ? 1 : 0;
                 String layout = "222222222".substring(0, ahead + 1);
@@ -477,11 +462,11 @@ public final class LayoutBoundsTest extends Sentences {
         x = new Desk().talls(6, 1, 1, 1, 1, 1, 1, 6).withHigh(12);
         tolds("20001000", 1, 15 + 15, 2, 0);
         tolds("20002000", 2, 36 + 15 + 36 + 15, 2, 0);
-        x = new Desk().kinds(nine(REVEAL)).withHigh(20);
+        x = new Desk().alike(9, 1, REVEAL).withHigh(20);
         tolds("222222222", 18, 9 * 400 + 9 * 361, 9, 9);
-        x = new Desk().kinds(nine(SPREAD)).withHigh(20);
+        x = new Desk().alike(9, 1, SPREAD).withHigh(20);
         tolds("222222222", 19, 400, 9, 1);
-        x = new Desk().kinds(nine(PLAIN)).withHigh(20);
+        x = new Desk().alike(9, 1, PLAIN).withHigh(20);
         tolds("222222222", 9, 9 * 361, 9, 0);
         tolds("211111111", 1, 11 * 11, 9, 0);
         tolds("200010001", 1, 17 * 17, 3, 0);
@@ -546,10 +531,7 @@ public final class LayoutBoundsTest extends Sentences {
             due("at(0, 0) of 2" + sign, x.at(0, 0), FAULT);
         }
         for (int panels = 0; panels <= 9; panels++) {
-            x = new Desk();
-            for (int i = 0; i < panels; i++) {
-                x.put(1, 1, 0);
-            }
+            x = new Desk().alike(panels, 1, 0);
             for (int signs = 0; signs <= 9; signs++) {
                 x.pad("222222222".substring(0, signs));
                 int want = panels == 0 ? UNKNOWN : signs == panels ? 0 : FAULT;
@@ -560,13 +542,13 @@ public final class LayoutBoundsTest extends Sentences {
 
     @Says("NO: it does not GO.")
     void promise12OneBadFigureIsNoForAllPanels() {
-        refused(NO, "at(panel, 0), the ninth figure", d -> d.talls(nine(1)).pad("200020000"), from(0, 8), (d, v) -> d.at(v, 0));
-        refused(NO, "at(panel, 3), the first figure", d -> d.talls(nine(1)).pad("022222222"), from(0, 8), (d, v) -> d.at(v, 3));
+        refused(NO, "at(panel, 0), the ninth figure", d -> d.alike(9, 1, PLAIN).pad("200020000"), from(0, 8), (d, v) -> d.at(v, 0));
+        refused(NO, "at(panel, 3), the first figure", d -> d.alike(9, 1, PLAIN).pad("022222222"), from(0, 8), (d, v) -> d.at(v, 3));
     }
 
     @Says("its place in that TIER, from 0 on (2)")
     void promise12PlacesAreZeroToThreeAndTiersZeroToEight() {
-        x.talls(nine(1));
+        x.alike(9, 1, PLAIN);
         x.pad("200010002");
         for (int p = 0; p < 8; p++) {
             ats(p, 0, p / 4, p % 4, 3);
@@ -584,11 +566,11 @@ public final class LayoutBoundsTest extends Sentences {
 
     @Says({"its PAGE (what = 0; of a SPREAD the lesser one)", "its WIDTH (3; of a SPREAD 24)"})
     void promise12SpreadsAndReveals() {
-        x.kinds(nine(SPREAD)).pad("222222222");
+        x.alike(9, 1, SPREAD).pad("222222222");
         for (int p = 0; p < 9; p++) {
             ats(p, 2 * p + 1, 0, 0, 24);
         }
-        x = new Desk().kinds(nine(REVEAL)).pad("222222222");
+        x = new Desk().alike(9, 1, REVEAL).pad("222222222");
         for (int p = 0; p < 9; p++) {
             ats(p, 2 * p + 1, 0, 0, 12);
         }
@@ -659,10 +641,7 @@ public final class LayoutBoundsTest extends Sentences {
     @Says("(10 and i, added; NONE: there is no such PANEL, i 0 to 8)")
     void promise13FigureOfEachPanelThatThereIs() {
         for (int panels = 0; panels <= 9; panels++) {
-            x = new Desk();
-            for (int i = 0; i < panels; i++) {
-                x.put(1, 6, ALONE);
-            }
+            x = new Desk().alike(panels, 6, ALONE);
             x.withHigh(6);
             for (int i = 0; i <= 8; i++) {
                 due("best(" + (10 + i) + ") of " + panels, x.best(10 + i), i < panels ? 2 : NONE);
@@ -692,10 +671,7 @@ public final class LayoutBoundsTest extends Sentences {
             holds("best(2) of kinds " + kinds, x.best(2) >= 1);
             holds("best(3) of kinds " + kinds, x.best(3) >= 1);
         }
-        x = new Desk();
-        for (int i = 0; i < 9; i++) {
-            x.put(1, 6, ALONE);
-        }
+        x = new Desk().alike(9, 6, ALONE);
         x.withHigh(6);
         bests(9, 0, 1, 1, "222222222");
     }
@@ -730,12 +706,12 @@ public final class LayoutBoundsTest extends Sentences {
 
     @Says("how many LAYOUTS GO (2), how many of these have as few PAGES (3)")
     void promise13MostLayouts() {
-        x.talls(nine(1)).withHigh(20);
+        x.alike(9, 1, PLAIN).withHigh(20);
         // With n panels twice as many as with those ahead of the last tier, of 1 to 4: half of g(9).
         bests(1, 121, 6264, 208, "211111111");
-        x = new Desk().kinds(nine(SPREAD)).withHigh(20);
+        x = new Desk().alike(9, 1, SPREAD).withHigh(20);
         bests(19, 400, 1, 1, "222222222");
-        x = new Desk().kinds(nine(REVEAL)).withHigh(20);
+        x = new Desk().alike(9, 1, REVEAL).withHigh(20);
         bests(18, 9 * 400 + 9 * 361, 1, 1, "222222222");
     }
 

@@ -78,6 +78,17 @@ public final class PanelBoundsTest extends Sentences {
         same("a new object", new Desk().everything(), before);
     }
 
+    @Says("An object is used for at most 512 calls after it has been made")
+    void promise1TheLastOf512Calls() {
+        for (int i = 0; i < 9; i++) {
+            x.panel(1, 1, PLAIN);
+        }
+        for (int calls = 9; calls < 511; calls++) {
+            due("best(2)", x.best(2), 6264);
+        }
+        due("lay(), the 512th call", x.lay(), 9);
+    }
+
     // ---- promise 2
 
     @Says({"PANELS, up to 9, are numbered from 0 on as they are told", "A PANEL more, behind all others: its number"})
@@ -337,10 +348,7 @@ public final class PanelBoundsTest extends Sentences {
     @Says("there are not so many")
     void promise7ThereAreSoMany() {
         for (int panels = 1; panels <= 9; panels++) {
-            x = new Desk();
-            for (int i = 0; i < panels; i++) {
-                x.put(1, 1, 0);
-            }
+            x = new Desk().alike(panels, 1, 0);
             for (int p = 0; p < panels; p++) {
                 for (int n = 1; n <= 4; n++) {
                     boolean are = p + n <= panels;

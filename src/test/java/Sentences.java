@@ -141,7 +141,7 @@ abstract class Sentences {
         Arrays.sort(methods, Comparator.comparingInt(Sentences::number).thenComparing(Method::getName));
         Path path = Path.of(args.length > 1 ? args[1] : "../shared/DOC.md");
         String document = Files.readString(path);
-        String terms = part(document, "## Terms");
+        String terms = part(document, "## What it is") + part(document, "## Terms");
         TreeSet<Integer> found = new TreeSet<>();
         for (Method m : methods) {
             int promise = number(m);
